@@ -1,0 +1,186 @@
+import java.util.Map;
+import java.util.Random;
+import java.util.TreeMap;
+
+/**
+ * Long runs of calls by chance, each answered by the program and by the oracle. The seeds are
+ * fixed; the first argument tells how many runs, the second the first seed.
+ */
+final class OracleTest {
+    private static final int RUNS = 1500;
+
+    private final Random random;
+    private final Sheets sheets;
+    private final RuleSheets it = new RuleSheets();
+    private final Oracle oracle = new Oracle();
+    private final StringBuilder told = new StringBuilder();
+    private static final Map<String, Integer> SEEN = new TreeMap<>();
+
+    private OracleTest(long seed) {
+        random = new Random(seed);
+        sheets = new Sheets(random);
+    }
+
+    public static void main(String[] args) {
+        int runs = args.length > 0 ? Integer.parseInt(args[0]) : RUNS;
+        long first = args.length > 1 ? Long.parseLong(args[1]) : 1;
+        for (long seed = first; seed < first + runs; seed++) {
+            OracleTest test = new OracleTest(seed);
+            if (!test.run()) {
+                System.out.println("seed " + seed + "\n" + test.told);
+                System.exit(1);
+            }
+        }
+        if (args.length > 2) {
+            SEEN.forEach((what, many) -> System.out.println(many + " " + what));
+        }
+        Check.finish("OracleTest");
+    }
+
+    private boolean run() {
+        int readings = 1 + random.nextInt(3);
+        for (int i = 0; i < readings; i++) {
+            if (!write(sheets.any()) || !same("read()", it::read, oracle::read)
+                    || !same("fault()", it::fault, oracle::fault)) {
+                return false;
+            }
+            int calls = 5 + random.nextInt(60);
+            for (int c = 0; c < calls; c++) {
+                if (!call()) {
+                    return false;
+                }
+            }
+            if (!sayAll()) {
+                return false;
+            }
+        }
+        return true;
+    }
+
+    private boolean write(String text) {
+        told.append("---- text\n").append(text).append("\n----\n");
+        it.end(0);
+        oracle.end(0);
+        for (int i = 0; i < text.length(); i += 4) {
+            int signs = 0;
+            for (int k = 0; k < 4 && i + k < text.length(); k++) {
+                signs |= text.charAt(i + k) << (8 * k);
+            }
+            int put = signs;
+            if (!same("put(" + put + ")", () -> it.put(put), () -> oracle.put(put))) {
+                return false;
+            }
+        }
+        return true;
+    }
+
+    /** A number that is mostly small, at times an edge. */
+    private int number(int below) {
+        int kind = random.nextInt(20);
+        if (kind == 0) {
+            return -1 - random.nextInt(2);
+        }
+        if (kind == 1) {
+            return random.nextBoolean() ? Integer.MAX_VALUE : Integer.MIN_VALUE;
+        }
+        return random.nextInt(below);
+    }
+
+    private boolean call() {
+        int a = number(5);
+        int b = number(3);
+        int k = number(12);
+        switch (random.nextInt(18)) {
+            case 0:
+                return same("sheet(" + b + ")", () -> it.sheet(b), () -> oracle.sheet(b));
+            case 1:
+            case 2:
+                return same("start()", it::start, oracle::start);
+            case 3:
+                return same("moves(" + a + ")", () -> it.moves(a), () -> oracle.moves(a));
+            case 4:
+                return same("terminal()", () -> it.terminal() ? 1 : 0, () -> oracle.terminal() ? 1 : 0);
+            case 5:
+                return same("goal(" + a + ")", () -> it.goal(a), () -> oracle.goal(a));
+            case 6:
+            case 7:
+            case 8:
+                return same("play(" + b + ")", () -> it.play(b), () -> oracle.play(b));
+            case 9:
+            case 10:
+                int what = number(7);
+                return same("sign(" + what + ", " + a + ", " + k + ")", () -> it.sign(what, a, k),
+                        () -> oracle.sign(what, a, k));
+            case 11:
+                return same("explore()", it::explore, oracle::explore);
+            case 12:
+                return same("defect(" + b + ")", () -> it.defect(b), () -> oracle.defect(b));
+            case 13:
+                return same("state(" + k + ", " + a + ")", () -> it.state(k, a), () -> oracle.state(k, a));
+            case 14:
+                return same("next(" + k + ", " + b + ")", () -> it.next(k, b), () -> oracle.next(k, b));
+            case 15:
+                return same("value(" + k + ")", () -> it.value(k), () -> oracle.value(k));
+            case 16:
+                return same("best(" + k + ")", () -> it.best(k), () -> oracle.best(k));
+            default:
+                return same("fault()", it::fault, oracle::fault);
+        }
+    }
+
+    /** Every answer that the state and the states can give. */
+    private boolean sayAll() {
+        boolean well = true;
+        for (int what = 0; what < 6; what++) {
+            for (int i = 0; i < 4; i++) {
+                for (int k = 0; k < 50; k += 1 + random.nextInt(3)) {
+                    int w = what;
+                    int x = i;
+                    int y = k;
+                    well = well && same("sign(" + w + ", " + x + ", " + y + ")", () -> it.sign(w, x, y),
+                            () -> oracle.sign(w, x, y));
+                }
+            }
+        }
+        for (int r = 0; r < 4; r++) {
+            int x = r;
+            well = well && same("moves(" + x + ")", () -> it.moves(x), () -> oracle.moves(x))
+                    && same("goal(" + x + ")", () -> it.goal(x), () -> oracle.goal(x));
+        }
+        well = well && same("explore()", it::explore, oracle::explore)
+                && same("defect(0)", () -> it.defect(0), () -> oracle.defect(0))
+                && same("defect(1)", () -> it.defect(1), () -> oracle.defect(1));
+        boolean known = !Check.answer(() -> oracle.defect(0)).startsWith("I");
+        int many = known ? oracle.explore() : 1;
+        for (int n = 0; n < many; n++) {
+            int x = n;
+            well = well && same("value(" + x + ")", () -> it.value(x), () -> oracle.value(x))
+                    && same("best(" + x + ")", () -> it.best(x), () -> oracle.best(x));
+            for (int w = 0; w < 3; w++) {
+                int y = w;
+                well = well && same("state(" + x + ", " + y + ")", () -> it.state(x, y),
+                        () -> oracle.state(x, y));
+            }
+            int joints = known ? oracle.state(x, 2) : 0;
+            for (int j = 0; j <= joints; j++) {
+                int y = j;
+                well = well && same("next(" + x + ", " + y + ")", () -> it.next(x, y),
+                        () -> oracle.next(x, y));
+            }
+        }
+        return well;
+    }
+
+    private boolean same(String what, Check.Call mine, Check.Call due) {
+        String want = Check.answer(due);
+        String got = Check.answer(mine);
+        Check.due(what, got, want);
+        if (!what.startsWith("put")) {
+            told.append(what).append(" = ").append(want).append('\n');
+            String kind = what.substring(0, what.indexOf('('));
+            boolean kept = kind.equals("read") || what.startsWith("defect(0");
+            SEEN.merge(kind + (Character.isLetter(want.charAt(0)) || kept ? " " + want : ""), 1, Integer::sum);
+        }
+        return got.equals(want);
+    }
+}
