@@ -36,7 +36,8 @@ public final class RuleSheets {
     private static final int MOST_NODES = 1024;
 
     /** The names that the rules of sheets know, in the order of the numbers below. */
-    private static final String WORDS = "role init true next does legal goal terminal not distinct ";
+    private static final String WORDS =
+            "role init true next does legal goal terminal not distinct ";
     private static final int ROLE = 0;
     private static final int INIT = 1;
     private static final int TRUE = 2;
@@ -767,7 +768,8 @@ public final class RuleSheets {
         /** A term, or an atom, inside so many parentheses: its node, or NONE. */
         private int takeTerm(int depth, boolean atom) {
             if (kind() == Tokens.VARIABLE && !atom) {
-                return takeVariable();
+                int variable = takeVariable();
+                return variable == NONE ? NONE : sheet.addNode(-1 - variable, 0, parts, 0);
             }
             boolean open = kind() == Tokens.OPEN;
             if (open) {
@@ -797,6 +799,7 @@ public final class RuleSheets {
             return close() ? sheet.addNode(name, many, parts, WIDTH * depth) : NONE;
         }
 
+        /** The variable's number in the rule; NONE if it is one too many. */
         private int takeVariable() {
             int name = tokens.name[at];
             int number = variableCount;
@@ -813,7 +816,7 @@ public final class RuleSheets {
                 variableCount++;
             }
             at++;
-            return sheet.addNode(-1 - number, 0, parts, 0);
+            return number;
         }
     }
 
@@ -974,7 +977,10 @@ public final class RuleSheets {
         }
 
         private boolean depends(int relation, int on) {
-            return bit[relation] != NONE && (needs[bit[relation]] & maskOf(on)) != 0;
+            if (bit[relation] == NONE || bit[on] == NONE) {
+                return false;
+            }
+            return (needs[bit[relation]] >>> bit[on] & 1) != 0;
         }
 
         /** Whether a relation is another one, or depends on that. */
@@ -1095,10 +1101,11 @@ public final class RuleSheets {
         }
 
         private void placeGroup(int b) {
-            int from = sheet.groupFrom[sheet.groups];
-            sheet.recursiveFrom[sheet.groups] = placeRules(b, false, from);
+            int from = placeRules(b, false, sheet.groupFrom[sheet.groups]);
+            int to = placeRules(b, true, from);
+            sheet.recursiveFrom[sheet.groups] = from;
             sheet.groups++;
-            sheet.groupFrom[sheet.groups] = placeRules(b, true, sheet.recursiveFrom[sheet.groups - 1]);
+            sheet.groupFrom[sheet.groups] = to;
         }
 
         private int placeRules(int b, boolean recursive, int from) {
@@ -1613,13 +1620,18 @@ public final class RuleSheets {
                 return;
             }
             int atom = sheet.positiveOf(rule, k);
-            // Atoms are taken up to the new one; it itself only behind the condition that it fulfils.
+            // The new atom itself is taken again only behind the condition that it fulfils.
             int last = k < given ? newest - 1 : newest;
             if ((sheet.vars[atom] & ~bound) == 0) {
                 int fact = lookUp(atom);
                 if (fact != NONE && fact <= last) {
                     join(k + 1);
                 }
+                return;
+            }
+            int head = sheet.head[rule];
+            if ((sheet.vars[head] & ~bound) == 0 && lookUp(head) != NONE) {
+                // Whatever the other variables are, nothing new can come.
                 return;
             }
             int boundBefore = bound;
@@ -1633,7 +1645,7 @@ public final class RuleSheets {
             }
         }
 
-        /** The number of the atom that a node tells, all its variables bound; NONE if none holds. */
+        /** The number of the atom that a node tells, all its variables bound; NONE if none. */
         private int lookUp(int atom) {
             int mark = terms.count;
             terms.reserve(sheet.nodes);

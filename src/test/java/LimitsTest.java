@@ -261,26 +261,28 @@ final class LimitsTest {
         Check.refuses("by moves alone", TOO_GREAT, () -> Game.of(text + "(<=x(does x m))").it.explore());
     }
 
-    /** More unlike terms than the tables have place for at first. */
+    /** More unlike terms than the tables have place for at first; all of them come again. */
     private static void tablesGrow() {
         StringBuilder text = new StringBuilder("(role x)(role y)(legal x m)(legal y m)");
         text.append(set("k", 8)).append("(init (c a b))");
         for (int i = 0; i < 16; i++) {
             text.append("(s ").append(i).append(' ').append(i + 1).append(")");
         }
-        text.append("(t a 0)(<= (next (c ?v ?y)) (true (c ?x ?y)) (s ?x ?v))");
-        text.append("(<= (next (c 0 ?w)) (true (c 16 ?y)) (s ?y ?w))(<= (next (c 0 0)) (true (c a b)))");
+        text.append("(<= (next (c ?v ?y)) (true (c ?x ?y)) (s ?x ?v))(<= (next (c 0 0)) (true (c a b)))");
+        text.append("(<= (next (c 0 ?w)) (true (c 16 ?y)) (s ?y ?w))(<= (next (c 0 0)) (true (c 16 16)))");
         text.append("(<= (next (p (q ?x ?k) (r ?y ?k) ?k)) (true (c ?x ?y)) (k ?k))");
         text.append("(<= (next (p (q ?k ?x) (u ?y) (v ?x ?y))) (true (c ?x ?y)) (k ?k))");
-        text.append("(<= terminal (true (c 0 16)))(goal x 0)(goal y 100)");
         Game game = Game.of(text.toString());
         Check.due("start()", game.it.start(), 1);
         Check.due("play(0)", game.it.play(0), 17);
         String before = game.state(17);
-        Check.due("explore()", game.it.explore(), 274);
+        // (c a b), (c 0 0) behind it, 288 others of the count, and (c 0 0) behind (c 16 16)
+        Check.due("explore()", game.it.explore(), 291);
         Check.due("the state stays", game.state(17), before);
-        Check.due("all have 17 terms", game.it.state(273, 0), 17);
-        Check.due("the value", game.it.value(0), 0);
+        Check.due("all have 17 terms", game.it.state(290, 0), 17);
+        Check.due("the last leads back", game.it.next(290, 0), 2);
+        Check.due("there it turns round", game.it.defect(0), 6);
+        Check.due("from the third state on", game.it.defect(1), 2);
         for (int i = 0; i < 40; i++) {
             Check.due("play(0) on", game.it.play(0), 17);
         }

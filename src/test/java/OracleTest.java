@@ -7,7 +7,7 @@ import java.util.TreeMap;
  * fixed; the first argument tells how many runs, the second the first seed.
  */
 final class OracleTest {
-    private static final int RUNS = 1500;
+    private static final int RUNS = 1000;
 
     private final Random random;
     private final Sheets sheets;

@@ -30,6 +30,7 @@ final class PlayingTest {
         promise11Throws();
         promise12Sign();
         promise12Order();
+        promise12ManyNames();
         promise12Throws();
         tooGreatState();
         Check.finish("PlayingTest");
@@ -68,6 +69,8 @@ final class PlayingTest {
         Check.due("one variable twice", start("(p a a) (p a b) (<= (init ?x) (p ?x ?x))"), "a");
         Check.due("a variable and its whole", start("(p a (f a)) (p a (f b)) (<= (init ?x) (p ?x (f ?x)))"), "a");
         Check.due("without conditions", start("(<= (init (f a)))"), "(f a)");
+        Check.due("words as names of terms", start("(p a) (p (role a)) (p (not_ b)) (<= (init (role ?x)) (p ?x))"
+                + "(<= (init (terminal ?x)) (p (role ?x)))"), "(role (not_ b)), (role (role a)), (role a), (terminal a)");
         Check.due("no terms", start("p (<= q p r) (<= (init q) q) (<= (init p) p)"), "p");
         Check.due("no moves, no state", start("(<= p (does ?r ?m)) (<= q (true ?x)) (init a)"), "a");
         Check.due("like names with unlike numbers of parts", start("(p (f a)) (p (f a b)) (p f)"
@@ -84,6 +87,17 @@ final class PlayingTest {
         Check.due("twice in one rule", start("(e a b) (e b c) (e c d) (e d f) (v a) (v b) (v c) (v d) (v f)"
                 + "(<= (r ?x ?y) (e ?x ?y)) (<= (r ?x ?z) (v ?y) (r ?x ?y) (r ?y ?z)) (<= (init ?y) (r a ?y))"),
                 "b, c, d, f");
+        String base = "(e a b) (e b c) (e c d) (v a) (v b) (v c) (v d) (<= (r ?x ?y) (e ?x ?y)) (<= (init ?y) (r a ?y))";
+        Check.due("first of the conditions", start(base + "(<= (r ?x ?z) (r ?y ?z) (e ?x ?y))"), "b, c, d");
+        Check.due("first and last", start(base + "(<= (r ?x ?z) (r ?x ?y) (v ?y) (r ?y ?z))"), "b, c, d");
+        Check.due("the other way round", start(base + "(<= (r ?x ?z) (r ?y ?z) (v ?y) (r ?x ?y))"), "b, c, d");
+        Check.due("one atom for two conditions", start("(p a) (v a) (v (g a)) (v (g (g a))) (<= (init ?x) (p ?x))"
+                + "(<= (p (g ?x)) (p ?x) (p ?x) (v ?x))"), "(g (g (g a))), (g (g a)), (g a), a");
+        Check.due("one atom for two unlike conditions", start("(p a b) (v a) (v b) (v c) (<= (init (f ?x ?y)) (p ?x ?y))"
+                + "(<= (p c ?x) (p ?x ?y) (p ?z b) (v ?x) (v ?y) (v ?z))"), "(f a b), (f c a), (f c c)");
+        Check.due("by two in turn, the one last", start("(n 0) (n 1) (n 2) (s 0 1) (s 1 2) (u 0) (<= (init (f ?x)) (w ?x))"
+                + "(<= (w ?x) (u ?x) (n ?x)) (<= (u ?y) (w ?x) (s ?x ?y)) (<= (init (g ?x)) (u ?x))"),
+                "(f 0), (f 1), (f 2), (g 0), (g 1), (g 2)");
         Check.due("a round", start("(e a b) (e b a) (<= (r ?x ?y) (e ?x ?y)) (<= (r ?x ?z) (e ?x ?y) (r ?y ?z))"
                 + "(<= (init (f ?x ?y)) (r ?x ?y))"), "(f a a), (f a b), (f b a), (f b b)");
         Check.due("nothing of nothing", start("(<= p q) (<= q p) (<= (init a) p) (init b)"), "b");
@@ -236,6 +250,31 @@ final class PlayingTest {
         Check.due("start()", game.it.start(), sorted.length);
         Check.due("the order of terms", game.state(sorted.length), String.join(", ", sorted));
         Check.due("the order of moves", game.moves(0), String.join(", ", sorted));
+    }
+
+    /** So many names that some must meet in any table. */
+    private static void promise12ManyNames() {
+        String signs = "abcdefghijklmnopqrstuvwxyz0123456789_";
+        Game game = new Game();
+        for (int round = 0; round < 3; round++) {
+            StringBuilder text = new StringBuilder();
+            String[] terms = new String[40];
+            int name = 37 * 37 - 1 - 400 * round;
+            for (int i = 0; i < 40; i++) {
+                StringBuilder term = new StringBuilder("(").append(signs.charAt(i % 37));
+                for (int p = 0; p < 4; p++) {
+                    term.append(" (").append(signs.charAt(name / 37)).append(signs.charAt(name % 37));
+                    term.append(' ').append(signs.charAt(name % 37)).append(signs.charAt(name / 37)).append(')');
+                    name -= 2;
+                }
+                terms[i] = term.append(")").toString();
+                text.append("(init ").append(terms[i]).append(")");
+            }
+            java.util.Arrays.sort(terms);
+            Check.due("read() of many names", game.read(text.toString()), 0);
+            Check.due("start() of many names", game.it.start(), 40);
+            Check.due("many names", game.state(40), String.join(", ", terms));
+        }
     }
 
     private static void promise12Throws() {

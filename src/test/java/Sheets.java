@@ -11,9 +11,9 @@ final class Sheets {
     }
 
     String any() {
-        int kind = random.nextInt(14);
+        int kind = random.nextInt(18);
         String text = kind < 4 ? graphGame() : kind < 8 ? anyRules() : kind < 10 ? heapGame()
-                : kind < 12 ? bothMove() : atLimit();
+                : kind < 12 ? bothMove() : kind < 14 ? atLimit() : closures();
         int spoilt = random.nextInt(kind < 10 ? 10 : 30);
         if (spoilt < 3) {
             text = spoilTokens(text);
@@ -129,6 +129,63 @@ final class Sheets {
             text.append("(<= (goal ?r 100) (true (did ?r m0)))(<= (next ?t) (true ?t)(distinct ?t (n 1)))");
         }
         return text.toString();
+    }
+
+    /** Relations that rest on one another and on themselves, in all orders of conditions. */
+    String closures() {
+        StringBuilder text = new StringBuilder("(role x)(role y)(legal x m)(legal x n)(legal y m)");
+        int places = 2 + random.nextInt(4);
+        for (int i = 0; i < places; i++) {
+            text.append("(v ").append((char) ('a' + i)).append(")");
+        }
+        text.append("(<= (v (g ?x)) (w ?x))(w a)(w b)\n");
+        boolean told = chance(2);
+        int edges = 1 + random.nextInt(6);
+        for (int i = 0; i < edges; i++) {
+            String edge = "(e " + (char) ('a' + random.nextInt(places)) + " "
+                    + (chance(8) ? "(g a)" : "" + (char) ('a' + random.nextInt(places))) + ")";
+            text.append(told ? "(init " + edge + ")" : edge);
+        }
+        text.append(told ? "(<= (e ?x ?y) (true (e ?x ?y)))\n" : "\n");
+        int rules = 2 + random.nextInt(5);
+        for (int i = 0; i < rules; i++) {
+            text.append(closureRule(i == 0)).append('\n');
+        }
+        if (told) {
+            text.append("(<= (next (e ?x ?y)) (r ?x ?y) (does x n))(<= (next (e ?y ?x)) (e ?x ?y) (does x m))");
+        } else {
+            text.append("(<= (init (r ?x ?y)) (r ?x ?y))(<= (next (t ?x ?y)) (t ?x ?y) (does x n))");
+        }
+        return text.append("(<= terminal (r ?x ?x))(<= (goal x 100) (t a ?x))(<= (goal x 0) (not some))").append("(<= some (t a ?x))(goal y 0)").toString();
+    }
+
+    private String closureRule(boolean first) {
+        List<String> conditions = new ArrayList<>();
+        String head = "(" + (first ? "r" : pick("r", "r", "t")) + " " + pick("?x", "?x", "?z", "(g ?x)") + " "
+                + pick("?z", "?z", "?y", "a") + ")";
+        int many = first ? 0 : 1 + random.nextInt(2);
+        StringBuilder used = new StringBuilder(head);
+        for (int i = 0; i < many; i++) {
+            String condition = "(" + pick("r", "r", "t") + " " + pick("?x", "?y", "?z", "b") + " "
+                    + pick("?y", "?z", "?x", "(g ?x)") + ")";
+            conditions.add(condition);
+            used.append(condition);
+        }
+        int plain = (first ? 1 : 0) + random.nextInt(2);
+        for (int i = 0; i < plain; i++) {
+            conditions.add("(e " + pick("?x", "?y") + " " + pick("?y", "?z", "?x") + ")");
+        }
+        for (String term : List.of("?x", "?y", "?z", "(g ?x)")) {
+            if (used.indexOf(term) >= 0) {
+                conditions.add("(v " + term + ")");
+            }
+        }
+        if (chance(4)) {
+            conditions.add("(distinct ?x a)");
+            conditions.add("(v ?x)");
+        }
+        java.util.Collections.shuffle(conditions, random);
+        return "(<= " + head + " " + String.join(" ", conditions) + ")";
     }
 
     private String set(String name, int many) {
