@@ -451,7 +451,9 @@ public final class RuleSheets {
                 }
                 slot = (slot + 1) & (SLOTS - 1);
             }
-            System.arraycopy(signs, begin, pool, from[count], length);
+            for (int i = 0; i < length; i++) {
+                pool[from[count] + i] = signs[begin + i];
+            }
             from[count + 1] = from[count] + length;
             count++;
             slots[slot] = count;
@@ -1079,7 +1081,9 @@ public final class RuleSheets {
          * depends on another group has more to depend on. What needs no state goes first.
          */
         private void plan() {
-            Arrays.fill(placed, false);
+            for (int b = 0; b < heads; b++) {
+                placed[b] = false;
+            }
             sheet.groups = 0;
             sheet.groupFrom[0] = 0;
             for (int turn = 0; turn < 2 * BITS; turn++) {
@@ -2009,7 +2013,9 @@ public final class RuleSheets {
         }
 
         private boolean returns(int n) {
-            Arrays.fill(reached, false);
+            for (int i = 0; i < count; i++) {
+                reached[i] = false;
+            }
             queue[0] = n;
             int filled = 1;
             for (int i = 0; i < filled && i < MOST_STATES; i++) {

@@ -251,6 +251,8 @@ final class LimitsTest {
         Game game = Game.of(text.toString());
         Check.due("work of 30000000", game.it.explore(), 11);
         Check.due("the value", game.it.value(0), 50);
+        Check.due("the same sheet again", game.read(text.toString()), 0);
+        Check.due("work counts for each sheet anew", game.it.explore(), 11);
         Game more = Game.of(text + "(<=x terminal)");
         Check.refuses("work of 30000001", TOO_GREAT, () -> more.it.explore());
         Check.refuses("they aren't known", IllegalStateException.class, () -> more.it.value(0));

@@ -275,6 +275,24 @@ final class PlayingTest {
             Check.due("start() of many names", game.it.start(), 40);
             Check.due("many names", game.state(40), String.join(", ", terms));
         }
+        StringBuilder text = new StringBuilder("(<= (init ?x) (p ?x ?y) (q ?y ?x))");
+        for (int turn = 0; turn < 2; turn++) {
+            for (int i = 0; i < 25; i++) {
+                String one = fourNames(signs, 8 * i + 700);
+                String two = fourNames(signs, 8 * i + 704);
+                text.append(turn == 0 ? "(p " + one + " " + two + ")" : "(q " + two + " " + one + ")");
+            }
+        }
+        Check.due("read() of names that come again", game.read(text.toString()), 0);
+        Check.due("they are the same", game.it.start(), 25);
+    }
+
+    private static String fourNames(String signs, int first) {
+        StringBuilder text = new StringBuilder("(f");
+        for (int name = first; name < first + 4; name++) {
+            text.append(' ').append(signs.charAt(name / 37)).append(signs.charAt(name % 37));
+        }
+        return text.append(")").toString();
     }
 
     private static void promise12Throws() {
@@ -348,6 +366,10 @@ final class PlayingTest {
             Check.refuses("explore() of too much", TOO_GREAT, () -> all.it.explore());
         }
         Check.refuses("no state came of it", NO_STATE, () -> all.it.moves(0));
+        Game first = Game.of("(role a) (init go)" + digits
+                + "(<= (t ?x ?y ?z) (n ?x) (n ?y) (n ?z) (not (true go)))");
+        Check.refuses("too much of no state", TOO_GREAT, () -> first.it.start());
+        Check.refuses("too much of no state for all", TOO_GREAT, () -> first.it.explore());
         Check.due("the roles are there", all.it.sheet(1), 1);
     }
 }

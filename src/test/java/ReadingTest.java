@@ -8,6 +8,7 @@ final class ReadingTest {
     public static void main(String[] args) {
         promise4Read();
         promise4Keeps();
+        promise4Often();
         promise5Fault();
         promise6Sheet();
         notASheet();
@@ -78,6 +79,27 @@ final class ReadingTest {
         Check.due("and its own state", game.it.start(), 0);
     }
 
+    /** One object reads many sheets, each with relations, groups and roles of its own. */
+    private static void promise4Often() {
+        Game game = new Game();
+        for (int i = 0; i < 12; i++) {
+            StringBuilder text = new StringBuilder("(role r").append(i).append(")(p0 a)(init z)");
+            int many = i % 3 == 0 ? 20 : 4 + i;
+            for (int k = 1; k < many; k++) {
+                text.append(i % 2 == 0 ? "(<= (p" + k + " ?x) (p" + (k - 1) + " ?x))"
+                        : "(<= (p" + k + " (f ?x)) (p" + k / 2 + " ?x) (not (p" + (k - 1) + " (g ?x))))");
+            }
+            text.append("(<= (init ?x) (p").append(many - 1).append(" ?x))(<= (legal ?r ?x) (role ?r) (true ?x))");
+            Check.due("read() of sheet " + i, game.read(text.toString()), 0);
+            Check.due("rules of sheet " + i, game.it.sheet(0), many + 4);
+            Check.due("start() of sheet " + i, game.it.start(), 2);
+            Check.due("moves of sheet " + i, game.it.moves(0), 2);
+            Check.due("role of sheet " + i, game.text(5, 0), "r" + i);
+            Check.due("a fault behind sheet " + i, game.read("(<= p (not p))" + text), 6);
+            Check.due("explore() of sheet " + i, game.it.explore(), 2);
+        }
+    }
+
     private static void promise5Fault() {
         Game game = new Game();
         Check.due("fault() before any", game.it.fault(), RuleSheets.NONE);
@@ -118,7 +140,7 @@ final class ReadingTest {
             "(<= p (distinct (^not a) b))", "(<= p (distinct a ^not))", "(^not p)", "(^distinct a b)", "^not",
             "^distinct", "p ^not", "(p ^not)", "(p (^not a))", "(p (^distinct a b))", "(p a ^distinct)",
             "(<= ^not)", "(<= (^not p))", "(<= (^distinct a b))", "(<= p ^not)", "(<= p ^distinct)",
-            "(<= p (q (f ^<=)))", "(p a) ^) q", "(p (f^))", "(p (f a b c d ^(g h)))", "(<= p ^<= q)",
+            "(<= p q ^not (r a))", "(<= p q ^distinct a b)", "(<= p (q a) ^not r)", "(<= p (q (f ^<=)))", "(p a) ^) q", "(p (f^))", "(p (f a b c d ^(g h)))", "(<= p ^<= q)",
             "(<= p (q a) ^? )", "p ^A", "p ^= q", "p ^<q", "p ^< = q", "(p ^'a)", "(p ^?)", "(p ^? x)", "(p ^?A)",
             "(p ^??x)", "p ; ( A \n ^-", "^~", "(p a).^".replace(".^", "^.")};
         for (String marked : all) {
@@ -129,6 +151,11 @@ final class ReadingTest {
         well("(<= p)");
         well("(<= (p a b c d))");
         well("(<= p (not q) (distinct a b) q)");
+        Game cut = new Game();
+        cut.write("(<= p)");
+        cut.it.end(2);
+        Check.due("read() of (< , where = stood behind it", cut.it.read(), 1);
+        Check.due("its place", cut.it.fault(), 1);
         well("(<= p (q ?not ?distinct))");
         well("(p (f a b c d) (role x))");
     }

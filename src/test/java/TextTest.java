@@ -86,6 +86,12 @@ final class TextTest {
         Check.due("one more", it.put(signs(0, ' ', 0, 0)), 2000);
         Check.refuses("2001", UnsupportedOperationException.class, () -> it.put(' '));
         Check.due("none more", it.put(0), 2000);
+        it.end(1996);
+        Check.due("four at once to the last", it.put(signs('a', ' ', 'b', ' ')), 2000);
+        it.end(1997);
+        Check.refuses("four at once beyond", UnsupportedOperationException.class,
+                () -> it.put(signs('a', ' ', 'b', ' ')));
+        Check.due("three at once to the last", it.put(signs('a', ' ', 'b', 0)), 2000);
         Check.due("read() sees all", it.read(), 1);
         Check.due("the 61st rule", it.fault(), 120);
     }
