@@ -204,6 +204,9 @@ final class ReadingTest {
         noSheet(rules + "^(q a)");
         noSheet(rules + "; \n ^)");
         noSheet(rules + "^A");
+        noSheet("(^(" + "(".repeat(1998));
+        noSheet("^)" + ")".repeat(1999));
+        noSheet("p?".repeat(1000).replaceFirst("\\?", "^?"));
     }
 
     private static void tokens() {

@@ -24,6 +24,7 @@ final class StatesTest {
 
     public static void main(String[] args) {
         promise13Explore();
+        promise13Stays();
         promise13Order();
         promise14NotTwoRoles();
         promise14DefectsOfStates();
@@ -70,6 +71,40 @@ final class StatesTest {
                 + "terminal").it.explore(), 1);
         Check.due("from the empty one", Game.of("(role a)(legal a m)(legal a n)(<= (next ?m) (does ?r ?m))")
                 .it.explore(), 3);
+    }
+
+    /** Moves that are made of parts stay what they were, whatever is worked out meanwhile. */
+    private static void promise13Stays() {
+        String text = "(role x)(role y)(n 0)(n 1)(n 2)(n 3)(n 4)(n 5)(n 6)(n 7)(n 8)(n 9)(init (at 0 0))(s 0 1)(s 1 2)(s 2 3)"
+                + "(<= (legal x (go ?v ?w)) (true (at ?x ?y)) (s ?x ?v) (s ?y ?w))"
+                + "(<= (legal x (stay (at ?x ?y))) (true (at ?x ?y)))"
+                + "(<= (legal y (see ?t)) (true ?t))"
+                + "(<= (next (at ?v ?w)) (does x (go ?v ?w)))(<= (next ?t) (does x (stay ?t)))"
+                + "(<= (big ?x ?y ?z) (does x (stay (at 2 2))) (n ?x) (n ?y) (n ?z))";
+        Game game = Game.of(text);
+        game.it.start();
+        game.it.play(0);
+        Check.due("the moves", game.moves(0), "(go 2 2), (stay (at 1 1))");
+        Check.refuses("too great to explore", UnsupportedOperationException.class, () -> game.it.explore());
+        Check.due("the moves stay", game.moves(0), "(go 2 2), (stay (at 1 1))");
+        Check.due("the other's, too", game.moves(1), "(see (at 1 1))");
+        game.it.play(0);
+        Check.due("the moves then", game.moves(0), "(go 3 3), (stay (at 2 2))");
+        Check.refuses("too great to play", UnsupportedOperationException.class, () -> game.it.play(1));
+        Check.due("the moves stay again", game.moves(0), "(go 3 3), (stay (at 2 2))");
+        Check.due("the other's, too, again", game.moves(1), "(see (at 2 2))");
+        Check.due("play(0)", game.it.play(0), 1);
+        Check.due("the state", game.state(1), "(at 3 3)");
+        Game well = Game.of(text.substring(0, text.indexOf("(<= (big")));
+        well.it.start();
+        well.it.play(0);
+        well.it.play(0);
+        Check.due("the moves of it", well.moves(0), "(go 3 3), (stay (at 2 2))");
+        Check.due("explore()", well.it.explore(), 4);
+        Check.due("the moves of it stay", well.moves(0), "(go 3 3), (stay (at 2 2))");
+        Check.due("the other's of it", well.moves(1), "(see (at 2 2))");
+        Check.due("play(1)", well.it.play(1), 1);
+        Check.due("the state of it", well.state(1), "(at 2 2)");
     }
 
     private static void promise13Order() {
