@@ -602,6 +602,8 @@ public final class RuleSheets {
         final int[] head = new int[MOST_RULES];
         final int[] positive = new int[MOST_CONDITIONS * MOST_RULES];
         final int[] positives = new int[MOST_RULES];
+        /** The variables that still matter behind each positive condition, as bits. */
+        final int[] later = new int[MOST_CONDITIONS * MOST_RULES];
         /** Negative conditions as their atoms, and distinct as a node of that name. */
         final int[] other = new int[MOST_CONDITIONS * MOST_RULES];
         final int[] others = new int[MOST_RULES];
@@ -1098,6 +1100,17 @@ public final class RuleSheets {
             }
         }
 
+        private void findLater(int rule) {
+            int matter = sheet.vars[sheet.head[rule]];
+            for (int i = 0; i < sheet.others[rule]; i++) {
+                matter |= sheet.vars[sheet.otherOf(rule, i)];
+            }
+            for (int i = sheet.positives[rule] - 1; i >= 0; i--) {
+                sheet.later[MOST_CONDITIONS * rule + i] = matter;
+                matter |= sheet.vars[sheet.positiveOf(rule, i)];
+            }
+        }
+
         private int turnOf(int b) {
             boolean free = (needs[b] & (1L << TRUE_BIT | 1L << DOES_BIT)) == 0;
             int many = Long.bitCount(needs[b] | 1L << b);
@@ -1120,6 +1133,7 @@ public final class RuleSheets {
                     placed[c] = true;
                     sheet.order[to] = rule;
                     to++;
+                    findLater(rule);
                 }
             }
             return to;
@@ -1638,11 +1652,16 @@ public final class RuleSheets {
                 // Whatever the other variables are, nothing new can come.
                 return;
             }
+            // If what it binds doesn't matter later, one atom is as good as all.
+            int binds = sheet.vars[atom] & ~bound;
+            boolean once = (binds & sheet.later[MOST_CONDITIONS * rule + k]) == 0;
+            boolean over = false;
             int boundBefore = bound;
             int fact = facts.latest[sheet.label[atom]];
-            for (int i = facts.many[sheet.label[atom]]; i > 0; i--) {
+            for (int i = facts.many[sheet.label[atom]]; i > 0 && !over; i--) {
                 if (fact <= last && fits(atom, fact)) {
                     join(k + 1);
+                    over = once;
                 }
                 bound = boundBefore;
                 fact = facts.before[fact];

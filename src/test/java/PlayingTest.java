@@ -71,6 +71,12 @@ final class PlayingTest {
         Check.due("without conditions", start("(<= (init (f a)))"), "(f a)");
         Check.due("words as names of terms", start("(p a) (p (role a)) (p (not_ b)) (<= (init (role ?x)) (p ?x))"
                 + "(<= (init (terminal ?x)) (p (role ?x)))"), "(role (not_ b)), (role (role a)), (role a), (terminal a)");
+        Check.due("a way through the middle", start("(t a b) (t b c) (t d e) (e z) (<= (init ?z) (t ?x ?y) (t ?y ?w) (e ?z))"),
+                "z");
+        Check.due("only by the first", start("(p a) (p b) (<= (init c) (p ?x) (distinct ?x b))"), "c");
+        Check.due("only by the last", start("(p a) (p b) (<= (init c) (p ?x) (distinct ?x a))"), "c");
+        Check.due("only by one that isn't", start("(p a) (p b) (p c) (q a) (q c) (<= (init d) (p ?x) (not (q ?x)))"), "d");
+        Check.due("variables that tell nothing", start("(p a) (p b) (<= (init ?z) (p ?x) (p ?y) (p ?z))"), "a, b");
         Check.due("no terms", start("p (<= q p r) (<= (init q) q) (<= (init p) p)"), "p");
         Check.due("no moves, no state", start("(<= p (does ?r ?m)) (<= q (true ?x)) (init a)"), "a");
         Check.due("like names with unlike numbers of parts", start("(p (f a)) (p (f a b)) (p f)"
