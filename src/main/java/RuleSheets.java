@@ -5,7 +5,8 @@ import java.util.Arrays;
  * worked out for any state and moves, all states that can come are found and looked over for
  * defects, and of a game of two that has none the value is found, with a move that reaches it.
  *
- * <p>All rows are made with the object and used again by every call; only the tables of terms grow.
+ * <p>All rows are made with the object and used again by every call; only those of the terms and of
+ * the found states are made small, and anew, once each at most, for all that can ever come.
  */
 public final class RuleSheets {
     /** There is none. */
@@ -34,6 +35,12 @@ public final class RuleSheets {
     /** A name and a node both take two signs of a text at least, on the whole. */
     private static final int MOST_NAMES = 1024;
     private static final int MOST_NODES = 1024;
+    /**
+     * A term of n names, w of them with parts, has a text of 2 n - 1 + 2 w signs at least, with n at
+     * most 4 w + 1: so with 48 signs there are at most 19 names, and at most 11 of them with parts.
+     */
+    private static final int MOST_TERM_NAMES = 19;
+    private static final int MOST_TERM_WHOLES = 11;
 
     /** The names that the rules of sheets know, in the order of the numbers below. */
     private static final String WORDS =
@@ -157,7 +164,7 @@ public final class RuleSheets {
         needSheet();
         model.fix();
         model.terms.cut(model.kept);
-        model.workOut(held, 0, 0, here.chosen, 0);
+        model.workOut(held, 0, here.chosen, 0);
         become(INIT);
         return size;
     }
@@ -200,7 +207,7 @@ public final class RuleSheets {
         }
         here.choose(j);
         model.terms.cut(model.kept);
-        model.workOut(held, 0, size, here.chosen, model.roleCount);
+        model.workOut(held, size, here.chosen, model.roleCount);
         become(NEXT);
         return size;
     }
@@ -247,9 +254,9 @@ public final class RuleSheets {
             model.terms.cut(model.kept);
             states.clear(model.roleCount);
             work = 0;
-            model.workOut(held, 0, 0, ahead.chosen, 0);
+            model.workOut(held, 0, ahead.chosen, 0);
             addWork();
-            enter(INIT, model.kept);
+            enter(INIT);
             for (int n = 0; n < states.count && n < MOST_STATES; n++) {
                 expand(n);
             }
@@ -353,8 +360,9 @@ public final class RuleSheets {
         if (seen == UNKNOWN) {
             seen = TOO_GREAT;
             model.terms.cut(model.kept);
-            model.workOut(held, 0, size, here.chosen, 0);
+            model.workOut(held, size, here.chosen, 0);
             here.gather(model);
+            model.terms.keep(here.row, here.total(), model.kept);
             model.kept = model.terms.count;
             seen = KNOWN;
         }
@@ -367,9 +375,8 @@ public final class RuleSheets {
     private void become(int relation) {
         int n = model.collect(relation, coming);
         model.terms.keep(coming, n, model.fixedTerms);
-        for (int i = 0; i < n; i++) {
-            model.terms.insert(held, 0, i, coming[i]);
-        }
+        model.terms.arrange(coming, n);
+        System.arraycopy(coming, 0, held, 0, n);
         size = n;
         model.kept = model.terms.count;
         seen = UNKNOWN;
@@ -384,32 +391,31 @@ public final class RuleSheets {
 
     /** Looks at state n, and at what comes of it by each of its joint moves. */
     private void expand(int n) {
-        int mark = model.terms.count;
-        model.workOut(states.rows, MOST_STATE_TERMS * n, states.sizes[n], ahead.chosen, 0);
+        Terms terms = model.terms;
+        terms.cut(model.kept);
+        int[] row = states.store.row;
+        int many = states.store.load(n, terms);
+        int mark = terms.count;
+        model.workOut(row, many, ahead.chosen, 0);
         addWork();
         ahead.gather(model);
         states.look(n, ahead);
-        model.terms.keep(ahead.row, states.joints[n] > 0 ? ahead.total() : 0, mark);
+        terms.keep(ahead.row, states.joints[n] > 0 ? ahead.total() : 0, mark);
+        mark = terms.count;
         for (int j = 0; j < states.joints[n]; j++) {
             ahead.choose(j);
-            mark = model.terms.count;
-            model.workOut(states.rows, MOST_STATE_TERMS * n, states.sizes[n], ahead.chosen,
-                    model.roleCount);
+            model.workOut(row, many, ahead.chosen, model.roleCount);
             addWork();
-            states.nexts[MOST_JOINT_MOVES * n + j] = enter(NEXT, mark);
+            states.nexts[MOST_JOINT_MOVES * n + j] = enter(NEXT);
+            terms.cut(mark);
         }
     }
 
-    /** The number of the state that the relation's atoms tell; of all new terms its own stay. */
-    private int enter(int relation, int mark) {
+    /** The number of the state that the relation's atoms tell; a new one gets the next. */
+    private int enter(int relation) {
         int n = model.collect(relation, coming);
-        int number = states.find(coming, n);
-        if (number != NONE) {
-            model.terms.cut(mark);
-            return number;
-        }
-        model.terms.keep(coming, n, mark);
-        return states.add(coming, n);
+        model.terms.arrange(coming, n);
+        return states.enter(coming, n, model.terms);
     }
 
     /** The names of one text, each with a number; the words of the rules come first. */
@@ -1158,7 +1164,16 @@ public final class RuleSheets {
      * its parts, and the latest ones are dropped first.
      */
     private static final class Terms {
-        private static final int FIRST_ROOM = 2 * MOST_NODES;
+        private static final int FIRST_ROOM = 4 * MOST_NODES;
+        /**
+         * All that can be there at once: the terms of the sheet and of a rule at work, and those
+         * with parts of all atoms that hold, of the state and its moves, and of the moves of a state
+         * ahead, which are fewer than its joint moves and the roles together.
+         */
+        private static final int MOST_TERMS = 2 * MOST_NODES + MOST_TERM_WHOLES
+                * (WIDTH * MOST_ATOMS + MOST_STATE_TERMS + MOST_ATOMS + MOST_JOINT_MOVES + MOST_ROLES);
+        /** A power of two, above twice the most terms. */
+        private static final int MOST_SLOTS = 131072;
 
         private Names names;
         private int[] label = new int[FIRST_ROOM];
@@ -1191,20 +1206,26 @@ public final class RuleSheets {
             }
         }
 
-        /** Makes place for so many terms more. */
+        /** Sees to it that there is place for so many terms more. */
         void reserve(int more) {
-            if (count + more <= label.length) {
-                return;
+            if (count + more > label.length && label.length < MOST_TERMS) {
+                grow();
             }
-            int room = 2 * label.length;
-            label = Arrays.copyOf(label, room);
-            arity = Arrays.copyOf(arity, room);
-            parts = Arrays.copyOf(parts, WIDTH * room);
-            signs = Arrays.copyOf(signs, room);
-            hash = Arrays.copyOf(hash, room);
-            slot = Arrays.copyOf(slot, room);
-            moved = new int[room];
-            slots = new int[2 * room];
+            if (count + more > label.length) {
+                throw new UnsupportedOperationException("too many terms");
+            }
+        }
+
+        /** Makes the rows anew, at once for the most terms, as what is dropped counts, too. */
+        private void grow() {
+            label = Arrays.copyOf(label, MOST_TERMS);
+            arity = Arrays.copyOf(arity, MOST_TERMS);
+            parts = Arrays.copyOf(parts, WIDTH * MOST_TERMS);
+            signs = Arrays.copyOf(signs, MOST_TERMS);
+            hash = Arrays.copyOf(hash, MOST_TERMS);
+            slot = Arrays.copyOf(slot, MOST_TERMS);
+            moved = new int[MOST_TERMS];
+            slots = new int[MOST_SLOTS];
             for (int t = 0; t < count; t++) {
                 int free = hash[t] & (slots.length - 1);
                 for (int i = 0; i < slots.length && slots[free] != 0; i++) {
@@ -1289,6 +1310,13 @@ public final class RuleSheets {
 
         private int placeOf(int t, int mark) {
             return t < mark ? t : moved[t];
+        }
+
+        /** Puts the first terms of a row, so many, in the order of their texts. */
+        void arrange(int[] list, int many) {
+            for (int i = 1; i < many; i++) {
+                insert(list, 0, i, list[i]);
+            }
         }
 
         /** Puts a term where it belongs, by the order of texts, into a row from begin to end. */
@@ -1555,11 +1583,11 @@ public final class RuleSheets {
             }
         }
 
-        /** Works out what holds of the state in a row, from a place on, and of some moves. */
-        void workOut(int[] state, int begin, int size, int[] moves, int moved) {
+        /** Works out what holds of the state in a row and of some moves. */
+        void workOut(int[] state, int size, int[] moves, int moved) {
             facts.cut(fixedFacts);
             for (int i = 0; i < size; i++) {
-                facts.row[0] = state[begin + i];
+                facts.row[0] = state[i];
                 facts.add(TRUE, 1);
             }
             for (int r = 0; r < moved; r++) {
@@ -1856,15 +1884,116 @@ public final class RuleSheets {
         }
     }
 
+    /**
+     * The terms of the states that have been found, in the order of their texts. They are told name
+     * by name, a whole ahead of its parts, so they outlast the terms that they were made of.
+     */
+    private static final class Store {
+        private static final int STATE_NAMES = MOST_STATE_TERMS * MOST_TERM_NAMES;
+        private static final int FIRST_ROOM = 8 * STATE_NAMES;
+        /** One more than all states: each is first told behind the others, then looked for. */
+        private static final int MOST_CODES = (MOST_STATES + 1) * STATE_NAMES;
+        /** A code is that many times a name's number, and how many parts it has. */
+        private static final int STEP = 8;
+
+        private short[] codes = new short[FIRST_ROOM];
+        /** Where the codes of each state begin; those of the next one begin where they end. */
+        private final int[] from = new int[MOST_STATES + 2];
+        private final int[] sums = new int[MOST_STATES + 1];
+        private int count = 0;
+        /** Where the terms of a state stand that are made again, and for a while their parts. */
+        private final int[] row = new int[MOST_STATE_TERMS + MOST_TERM_NAMES];
+        /** What is still to be told of a term. */
+        private final int[] open = new int[MOST_TERM_NAMES];
+
+        /** The number of the state of some terms in order; a new one gets the next. */
+        int intern(int[] list, int many, Terms terms) {
+            tell(list, many, terms);
+            for (int n = 0; n < count; n++) {
+                if (sums[n] == sums[count] && isLatest(n)) {
+                    return n;
+                }
+            }
+            if (count >= MOST_STATES) {
+                throw new UnsupportedOperationException("too many states");
+            }
+            count++;
+            return count - 1;
+        }
+
+        /** Tells the terms of a state behind those of all others. */
+        private void tell(int[] list, int many, Terms terms) {
+            int at = from[count];
+            if (at + STATE_NAMES > codes.length) {
+                codes = Arrays.copyOf(codes, MOST_CODES);
+            }
+            for (int i = 0; i < many; i++) {
+                at = tellTerm(list[i], at, terms);
+            }
+            from[count + 1] = at;
+            int sum = 0;
+            for (int i = from[count]; i < at; i++) {
+                sum = (sum ^ (sum >>> 15)) * 0x9E3779B1 + codes[i];
+            }
+            sums[count] = sum;
+        }
+
+        private int tellTerm(int term, int begin, Terms terms) {
+            int at = begin;
+            int left = 1;
+            open[0] = term;
+            for (int i = 0; i < MOST_TERM_NAMES && left > 0; i++) {
+                left--;
+                int t = open[left];
+                codes[at] = (short) (STEP * terms.label[t] + terms.arity[t]);
+                at++;
+                for (int k = terms.arity[t] - 1; k >= 0; k--) {
+                    open[left] = terms.parts[WIDTH * t + k];
+                    left++;
+                }
+            }
+            return at;
+        }
+
+        private boolean isLatest(int n) {
+            int many = from[n + 1] - from[n];
+            if (many != from[count + 1] - from[count]) {
+                return false;
+            }
+            for (int i = 0; i < many; i++) {
+                if (codes[from[n] + i] != codes[from[count] + i]) {
+                    return false;
+                }
+            }
+            return true;
+        }
+
+        /** Makes the terms of state n and puts them in the row, the last first: how many. */
+        int load(int n, Terms terms) {
+            terms.reserve(from[n + 1] - from[n]);
+            int many = 0;
+            // From the back, so that the parts of a whole are the latest ones when it comes.
+            for (int i = from[n + 1] - 1; i >= from[n]; i--) {
+                int parts = codes[i] % STEP;
+                for (int k = 0; k < parts; k++) {
+                    many--;
+                    terms.row[k] = row[many];
+                }
+                row[many] = terms.intern(codes[i] / STEP, parts);
+                many++;
+            }
+            return many;
+        }
+    }
+
     /** All states of a sheet, what leads from each to which, and what they are worth. */
     private static final class States {
         private static final int UNSETTLED = -1;
 
         private int roles = 0;
         private int count = 0;
-        private final int[] rows = new int[MOST_STATE_TERMS * MOST_STATES];
+        private final Store store = new Store();
         private final int[] sizes = new int[MOST_STATES];
-        private final int[] sums = new int[MOST_STATES];
         private final boolean[] ended = new boolean[MOST_STATES];
         private final int[] joints = new int[MOST_STATES];
         private final int[] nexts = new int[MOST_JOINT_MOVES * MOST_STATES];
@@ -1884,53 +2013,15 @@ public final class RuleSheets {
         void clear(int roleCount) {
             roles = roleCount;
             count = 0;
+            store.count = 0;
         }
 
-        /** The number of the state of some terms; NONE if it isn't known. Puts them in order. */
-        int find(int[] terms, int many) {
-            int sum = arrange(terms, many);
-            for (int n = 0; n < count; n++) {
-                if (sums[n] == sum && sizes[n] == many && hasTerms(n, terms)) {
-                    return n;
-                }
-            }
-            return NONE;
-        }
-
-        private boolean hasTerms(int n, int[] terms) {
-            for (int i = 0; i < sizes[n]; i++) {
-                if (rows[MOST_STATE_TERMS * n + i] != terms[i]) {
-                    return false;
-                }
-            }
-            return true;
-        }
-
-        /** Sorts terms by their numbers, and sums them up. */
-        private static int arrange(int[] terms, int many) {
-            int sum = 0;
-            for (int i = 0; i < many; i++) {
-                int term = terms[i];
-                int at = i;
-                while (at > 0 && terms[at - 1] > term) {
-                    terms[at] = terms[at - 1];
-                    at--;
-                }
-                terms[at] = term;
-                sum += term * 0x9E3779B1;
-            }
-            return sum;
-        }
-
-        int add(int[] terms, int many) {
-            if (count >= MOST_STATES) {
-                throw new UnsupportedOperationException("too many states");
-            }
-            sums[count] = arrange(terms, many);
-            sizes[count] = many;
-            System.arraycopy(terms, 0, rows, MOST_STATE_TERMS * count, many);
-            count++;
-            return count - 1;
+        /** The number of the state of some terms in order; a new one gets the next. */
+        int enter(int[] list, int many, Terms terms) {
+            int n = store.intern(list, many, terms);
+            sizes[n] = many;
+            count = store.count;
+            return n;
         }
 
         /** Keeps what a state tells without moves. */

@@ -18,7 +18,7 @@ final class LimitsTest {
         numberOfStates();
         jointMoves();
         work();
-        tablesGrow();
+        rowsGrow();
         Check.finish("LimitsTest");
     }
 
@@ -263,8 +263,8 @@ final class LimitsTest {
         Check.refuses("by moves alone", TOO_GREAT, () -> Game.of(text + "(<=x(does x m))").it.explore());
     }
 
-    /** More unlike terms than the tables have place for at first; all of them come again. */
-    private static void tablesGrow() {
+    /** More states than the rows have place for at first; all of them come again. */
+    private static void rowsGrow() {
         StringBuilder text = new StringBuilder("(role x)(role y)(legal x m)(legal y m)");
         text.append(set("k", 8)).append("(init (c a b))");
         for (int i = 0; i < 16; i++) {

@@ -26,6 +26,7 @@ final class StatesTest {
         promise13Explore();
         promise13Stays();
         promise13Order();
+        promise13MadeMoves();
         promise14NotTwoRoles();
         promise14DefectsOfStates();
         promise14Rounds();
@@ -135,6 +136,26 @@ final class StatesTest {
             Check.refuses("best(0) of " + text, NOT_KNOWN, () -> game.it.best(0));
             Check.refuses("value(-1) of " + text, NOT_KNOWN, () -> game.it.value(-1));
         }
+    }
+
+    /** Moves are terms that only the state makes, and others are made ahead of them by the move. */
+    private static void promise13MadeMoves() {
+        String text = "(role r)(init(c 0))(n 0)(n 1)(n 2)(<=(b(g ?m ?x ?y))(does r ?m)(n ?x)(n ?y))"
+                + "(<=(legal r(put ?x ?y))(true(c ?x))(n ?y))"
+                + "(<=(next(c ?y))(does r(put ?x ?y))(true(c ?x)))(<=(next(b ?z))(b(g ?z 0 ?x)))";
+        Game game = Game.of(text);
+        Check.due("a state for each move", game.it.explore(), 10);
+        for (int n = 0; n < 10; n++) {
+            for (int j = 0; j < 3; j++) {
+                // State 1 + 3 x + y comes by (put x y), in the order in which they are found.
+                int x = n == 0 ? 0 : (n - 1) % 3;
+                Check.due("next(" + n + ", " + j + ")", game.it.next(n, j), 1 + 3 * x + j);
+            }
+        }
+        game.it.start();
+        game.it.play(2);
+        Check.due("play() comes to the like", game.state(2), "(b (put 0 2)), (c 2)");
+        Check.due("with its moves", game.moves(0), "(put 2 0), (put 2 1), (put 2 2)");
     }
 
     private static void promise14NotTwoRoles() {
