@@ -375,8 +375,9 @@ public final class RuleSheets {
     private void become(int relation) {
         int n = model.collect(relation, coming);
         model.terms.keep(coming, n, model.fixedTerms);
-        model.terms.arrange(coming, n);
-        System.arraycopy(coming, 0, held, 0, n);
+        for (int i = 0; i < n; i++) {
+            model.terms.insert(held, 0, i, coming[i]);
+        }
         size = n;
         model.kept = model.terms.count;
         seen = UNKNOWN;
@@ -1181,6 +1182,7 @@ public final class RuleSheets {
         private int[] parts = new int[WIDTH * FIRST_ROOM];
         /** How many signs the text has. */
         private int[] signs = new int[FIRST_ROOM];
+        /** It rests on the names alone, so it stays the same when a term is made again. */
         private int[] hash = new int[FIRST_ROOM];
         private int[] slot = new int[FIRST_ROOM];
         private int[] moved = new int[FIRST_ROOM];
@@ -1240,7 +1242,7 @@ public final class RuleSheets {
         int intern(int name, int many) {
             int mix = name * 0x9E3779B1 + many;
             for (int i = 0; i < many; i++) {
-                mix = ((mix ^ (mix >>> 15)) + row[i]) * 0x85EBCA6B;
+                mix = ((mix ^ (mix >>> 15)) + hash[row[i]]) * 0x85EBCA6B;
             }
             mix ^= mix >>> 13;
             int free = mix & (slots.length - 1);
@@ -1312,13 +1314,6 @@ public final class RuleSheets {
             return t < mark ? t : moved[t];
         }
 
-        /** Puts the first terms of a row, so many, in the order of their texts. */
-        void arrange(int[] list, int many) {
-            for (int i = 1; i < many; i++) {
-                insert(list, 0, i, list[i]);
-            }
-        }
-
         /** Puts a term where it belongs, by the order of texts, into a row from begin to end. */
         void insert(int[] list, int begin, int end, int term) {
             int low = begin;
@@ -1331,10 +1326,25 @@ public final class RuleSheets {
                     high = middle;
                 }
             }
-            for (int i = end; i > low; i--) {
-                list[i] = list[i - 1];
-            }
+            System.arraycopy(list, low, list, low + 1, end - low);
             list[low] = term;
+        }
+
+        /** Puts terms in an order that is quick, and the same whenever they are made again. */
+        void arrange(int[] list, int many) {
+            for (int i = 1; i < many; i++) {
+                int term = list[i];
+                int at = i;
+                while (at > 0 && isBehind(list[at - 1], term)) {
+                    list[at] = list[at - 1];
+                    at--;
+                }
+                list[at] = term;
+            }
+        }
+
+        private boolean isBehind(int a, int b) {
+            return hash[a] > hash[b] || hash[a] == hash[b] && compare(a, b) > 0;
         }
 
         /** The order of two texts: it lies in the first parts that are unlike. */
@@ -1885,8 +1895,8 @@ public final class RuleSheets {
     }
 
     /**
-     * The terms of the states that have been found, in the order of their texts. They are told name
-     * by name, a whole ahead of its parts, so they outlast the terms that they were made of.
+     * The terms of the states that have been found, always in the same order. They are told name by
+     * name, a whole ahead of its parts, so they outlast the terms that they were made of.
      */
     private static final class Store {
         private static final int STATE_NAMES = MOST_STATE_TERMS * MOST_TERM_NAMES;
@@ -1906,7 +1916,7 @@ public final class RuleSheets {
         /** What is still to be told of a term. */
         private final int[] open = new int[MOST_TERM_NAMES];
 
-        /** The number of the state of some terms in order; a new one gets the next. */
+        /** The number of the state of some terms, arranged; a new one gets the next. */
         int intern(int[] list, int many, Terms terms) {
             tell(list, many, terms);
             for (int n = 0; n < count; n++) {
@@ -1927,15 +1937,12 @@ public final class RuleSheets {
             if (at + STATE_NAMES > codes.length) {
                 codes = Arrays.copyOf(codes, MOST_CODES);
             }
+            sums[count] = 0;
             for (int i = 0; i < many; i++) {
                 at = tellTerm(list[i], at, terms);
+                sums[count] += terms.hash[list[i]];
             }
             from[count + 1] = at;
-            int sum = 0;
-            for (int i = from[count]; i < at; i++) {
-                sum = (sum ^ (sum >>> 15)) * 0x9E3779B1 + codes[i];
-            }
-            sums[count] = sum;
         }
 
         private int tellTerm(int term, int begin, Terms terms) {
@@ -2016,7 +2023,7 @@ public final class RuleSheets {
             store.count = 0;
         }
 
-        /** The number of the state of some terms in order; a new one gets the next. */
+        /** The number of the state of some terms, arranged; a new one gets the next. */
         int enter(int[] list, int many, Terms terms) {
             int n = store.intern(list, many, terms);
             sizes[n] = many;
