@@ -12,6 +12,13 @@ final class Game {
         return game;
     }
 
+    /** What a new object says of a text: the fault and where it is, as "2 at 7"; "0 at -1" is well. */
+    static String reading(String text) {
+        Game game = new Game();
+        int fault = game.read(text);
+        return fault + " at " + game.it.fault();
+    }
+
     /** Puts a text in the place of the one before, and reads it. */
     int read(String text) {
         write(text);
