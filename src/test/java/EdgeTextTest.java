@@ -493,9 +493,10 @@ final class EdgeTextTest {
         game.it.end(0);
         Check.due("none stay", game.it.put(0), 0);
         Check.due("so it is no sheet", game.it.read() + " at " + game.it.fault(), "1 at 0");
-        game.append("p".repeat(2000));
-        game.it.end(2000);
-        Check.due("2000 stay", game.it.put(0), 2000);
+        Game full = new Game();
+        full.append("p".repeat(2000));
+        full.it.end(2000);
+        Check.due("2000 stay", full.it.put(0), 2000);
     }
 
     /** Promise 3: "IllegalArgumentException if n is below 0 or above how many there are." */

@@ -43,8 +43,10 @@ final class Game {
     /** The text that sign tells, from its first sign to the 0 behind it. */
     String text(int what, int i) {
         StringBuilder text = new StringBuilder();
-        for (int k = 0; it.sign(what, i, k) != 0; k++) {
-            text.append((char) it.sign(what, i, k));
+        int sign = it.sign(what, i, 0);
+        for (int k = 1; sign != 0; k++) {
+            text.append((char) sign);
+            sign = it.sign(what, i, k);
         }
         return text.toString();
     }

@@ -251,7 +251,7 @@ final class LimitsTest {
         Game game = Game.of(text.toString());
         Check.due("work of 30000000", game.it.explore(), 11);
         Check.due("the value", game.it.value(0), 50);
-        Check.due("the same sheet again", game.read(text.toString()), 0);
+        Check.due("the same sheet again", game.it.read(), 0);
         Check.due("work counts for each sheet anew", game.it.explore(), 11);
         Game more = Game.of(text + "(<=x terminal)");
         Check.refuses("work of 30000001", TOO_GREAT, () -> more.it.explore());
@@ -277,10 +277,10 @@ final class LimitsTest {
         Game game = Game.of(text.toString());
         Check.due("start()", game.it.start(), 1);
         Check.due("play(0)", game.it.play(0), 17);
-        String before = game.state(17);
+        String before = game.text(0, 0) + game.text(0, 7) + game.text(0, 16);
         // (c a b), (c 0 0) behind it, 288 others of the count, and (c 0 0) behind (c 16 16)
         Check.due("explore()", game.it.explore(), 291);
-        Check.due("the state stays", game.state(17), before);
+        Check.due("the state stays", game.text(0, 0) + game.text(0, 7) + game.text(0, 16), before);
         Check.due("all have 17 terms", game.it.state(290, 0), 17);
         Check.due("the last leads back", game.it.next(290, 0), 2);
         Check.due("there it turns round", game.it.defect(0), 6);

@@ -1,19 +1,25 @@
+import java.util.ArrayList;
+import java.util.Collections;
+import java.util.List;
 import java.util.Map;
 import java.util.Random;
 import java.util.TreeMap;
 
 /**
- * Long runs of calls by chance, each answered by the program and by the oracle. The seeds are
- * fixed; the first argument tells how many runs, the second the first seed.
+ * Runs of calls by chance, each answered by the program and by the oracle, of at most 512 calls, as
+ * the document promises nothing of later ones. The seeds are fixed; the first argument tells how
+ * many runs, the second the first seed, the third whether the answers that came are listed.
  */
 final class OracleTest {
-    private static final int RUNS = 1000;
+    private static final int RUNS = 2500;
+    private static final int MOST_CALLS = 512;
 
     private final Random random;
     private final Sheets sheets;
     private final RuleSheets it = new RuleSheets();
     private final Oracle oracle = new Oracle();
     private final StringBuilder told = new StringBuilder();
+    private int made = 0;
     private static final Map<String, Integer> SEEN = new TreeMap<>();
 
     private OracleTest(long seed) {
@@ -50,7 +56,7 @@ final class OracleTest {
                     return false;
                 }
             }
-            if (!sayAll()) {
+            if (!sayMany()) {
                 return false;
             }
         }
@@ -59,8 +65,11 @@ final class OracleTest {
 
     private boolean write(String text) {
         told.append("---- text\n").append(text).append("\n----\n");
-        it.end(0);
-        oracle.end(0);
+        if (made < MOST_CALLS) {
+            made++;
+            it.end(0);
+            oracle.end(0);
+        }
         for (int i = 0; i < text.length(); i += 4) {
             int signs = 0;
             for (int k = 0; k < 4 && i + k < text.length(); k++) {
@@ -128,50 +137,71 @@ final class OracleTest {
         }
     }
 
-    /** Every answer that the state and the states can give. */
-    private boolean sayAll() {
-        boolean well = true;
+    /** A call that is still to be made. */
+    private record Asked(String what, Check.Call mine, Check.Call due) {
+    }
+
+    /** Many of the answers that the state and the states can give. */
+    private boolean sayMany() {
+        List<Asked> ofState = new ArrayList<>();
         for (int what = 0; what < 6; what++) {
             for (int i = 0; i < 4; i++) {
-                for (int k = 0; k < 50; k += 1 + random.nextInt(3)) {
+                for (int k = 0; k < 50; k += 1 + random.nextInt(9)) {
                     int w = what;
                     int x = i;
                     int y = k;
-                    well = well && same("sign(" + w + ", " + x + ", " + y + ")", () -> it.sign(w, x, y),
-                            () -> oracle.sign(w, x, y));
+                    ofState.add(new Asked("sign(" + w + ", " + x + ", " + y + ")", () -> it.sign(w, x, y),
+                            () -> oracle.sign(w, x, y)));
                 }
             }
         }
         for (int r = 0; r < 4; r++) {
             int x = r;
-            well = well && same("moves(" + x + ")", () -> it.moves(x), () -> oracle.moves(x))
-                    && same("goal(" + x + ")", () -> it.goal(x), () -> oracle.goal(x));
+            ofState.add(new Asked("moves(" + x + ")", () -> it.moves(x), () -> oracle.moves(x)));
+            ofState.add(new Asked("goal(" + x + ")", () -> it.goal(x), () -> oracle.goal(x)));
         }
-        well = well && same("explore()", it::explore, oracle::explore)
+        return say(ofState, 60) && same("explore()", it::explore, oracle::explore)
                 && same("defect(0)", () -> it.defect(0), () -> oracle.defect(0))
-                && same("defect(1)", () -> it.defect(1), () -> oracle.defect(1));
-        boolean known = !Check.answer(() -> oracle.defect(0)).startsWith("I");
+                && same("defect(1)", () -> it.defect(1), () -> oracle.defect(1)) && say(ofStates(), 200);
+    }
+
+    private List<Asked> ofStates() {
+        boolean known = made < MOST_CALLS && !Check.answer(() -> oracle.defect(0)).startsWith("I");
         int many = known ? oracle.explore() : 1;
+        List<Asked> all = new ArrayList<>();
         for (int n = 0; n < many; n++) {
             int x = n;
-            well = well && same("value(" + x + ")", () -> it.value(x), () -> oracle.value(x))
-                    && same("best(" + x + ")", () -> it.best(x), () -> oracle.best(x));
+            all.add(new Asked("value(" + x + ")", () -> it.value(x), () -> oracle.value(x)));
+            all.add(new Asked("best(" + x + ")", () -> it.best(x), () -> oracle.best(x)));
             for (int w = 0; w < 3; w++) {
                 int y = w;
-                well = well && same("state(" + x + ", " + y + ")", () -> it.state(x, y),
-                        () -> oracle.state(x, y));
+                all.add(new Asked("state(" + x + ", " + y + ")", () -> it.state(x, y), () -> oracle.state(x, y)));
             }
             int joints = known ? oracle.state(x, 2) : 0;
             for (int j = 0; j <= joints; j++) {
                 int y = j;
-                well = well && same("next(" + x + ", " + y + ")", () -> it.next(x, y),
-                        () -> oracle.next(x, y));
+                all.add(new Asked("next(" + x + ", " + y + ")", () -> it.next(x, y), () -> oracle.next(x, y)));
             }
+        }
+        return all;
+    }
+
+    /** Makes some of the calls, in any order. */
+    private boolean say(List<Asked> all, int most) {
+        Collections.shuffle(all, random);
+        boolean well = true;
+        for (int i = 0; i < all.size() && i < most; i++) {
+            well = well && same(all.get(i).what, all.get(i).mine, all.get(i).due);
         }
         return well;
     }
 
+    /** Whether both answer alike; behind the last call that is promised nothing is called. */
     private boolean same(String what, Check.Call mine, Check.Call due) {
+        if (made == MOST_CALLS) {
+            return true;
+        }
+        made++;
         String want = Check.answer(due);
         String got = Check.answer(mine);
         Check.due(what, got, want);

@@ -261,7 +261,6 @@ final class PlayingTest {
     /** So many names that some must meet in any table. */
     private static void promise12ManyNames() {
         String signs = "abcdefghijklmnopqrstuvwxyz0123456789_";
-        Game game = new Game();
         for (int round = 0; round < 3; round++) {
             StringBuilder text = new StringBuilder();
             String[] terms = new String[40];
@@ -277,9 +276,12 @@ final class PlayingTest {
                 text.append("(init ").append(terms[i]).append(")");
             }
             java.util.Arrays.sort(terms);
-            Check.due("read() of many names", game.read(text.toString()), 0);
-            Check.due("start() of many names", game.it.start(), 40);
-            Check.due("many names", game.state(40), String.join(", ", terms));
+            // The text takes so many calls that an object has only enough of them left for two terms.
+            for (int i = 0; i < 40; i += 2) {
+                Game game = Game.of(text.toString());
+                Check.due("start() of many names", game.it.start(), 40);
+                Check.due("many names", game.text(0, i) + game.text(0, i + 1), terms[i] + terms[i + 1]);
+            }
         }
         StringBuilder text = new StringBuilder("(<= (init ?x) (p ?x ?y) (q ?y ?x))");
         for (int turn = 0; turn < 2; turn++) {
@@ -289,8 +291,7 @@ final class PlayingTest {
                 text.append(turn == 0 ? "(p " + one + " " + two + ")" : "(q " + two + " " + one + ")");
             }
         }
-        Check.due("read() of names that come again", game.read(text.toString()), 0);
-        Check.due("they are the same", game.it.start(), 25);
+        Check.due("names that come again are the same", Game.of(text.toString()).it.start(), 25);
     }
 
     private static String fourNames(String signs, int first) {

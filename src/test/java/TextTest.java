@@ -77,7 +77,6 @@ final class TextTest {
             it.put(signs('a', ' ', 'b', ' '));
         }
         Check.due("1999 signs", it.put(signs('a', 'b', 0, 'c')), 1999);
-        Check.refuses("two more", UnsupportedOperationException.class, () -> it.put(signs('a', 'a', 0, 0)));
         Check.refuses("four more", UnsupportedOperationException.class,
                 () -> it.put(signs('a', 'a', 'a', 'a')));
         Check.refuses("too many, and one bad", IllegalArgumentException.class,
@@ -85,7 +84,6 @@ final class TextTest {
         Check.due("nothing came of these", it.put(0), 1999);
         Check.due("one more", it.put(signs(0, ' ', 0, 0)), 2000);
         Check.refuses("2001", UnsupportedOperationException.class, () -> it.put(' '));
-        Check.due("none more", it.put(0), 2000);
         it.end(1996);
         Check.due("four at once to the last", it.put(signs('a', ' ', 'b', ' ')), 2000);
         it.end(1997);
