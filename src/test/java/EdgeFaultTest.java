@@ -44,6 +44,7 @@ final class EdgeFaultTest {
         readsWell();
         readKeepsAtFault();
         readForgets();
+        readForgetsFaults();
         textStays();
         faultOfLatest();
         sheetCounts();
@@ -423,6 +424,32 @@ final class EdgeFaultTest {
         Check.due("no moves", game.it.moves(0), 0);
         Check.due("no end", game.it.terminal() ? 1 : 0, 0);
         Check.due("numbers of terms are its own", game.read("(p a b) (q a b c)"), 0);
+    }
+
+    /** Promise 4: a text is read as if it were the first; what others had in the same place has no part in it. */
+    private static void readForgetsFaults() {
+        String[][] both = {{"(<= (init a) p) (<= p (true a))", "(<= (init a) p) (<= p q)"}, {"(p a) p", "p (<= q p)"},
+            {"(<= (goal a b) p) (<= p (does a b))", "(<= (goal a b) p) p"}, {"(<= p (q ?x) (not (r ?y)))", "p (<= p (q ?x))"},
+            {"(<= p (not q)) (<= q p)", "(<= p (not q)) q"}, {"(<= p a b c d e f g (not p))", "(<= p a b c d e f g h) p"},
+            {"(<= (p (f ?x)) (q ?x)) (<= (q ?x) (p ?x))", "(<= (p (f ?x)) (q ?x)) (<= (q ?x) (r ?x))"},
+            {"(<= p (not a) (not b) (distinct c d) (not p)) q", "p (<= q p)"}, {"(role a b)", "(a b) (b a)"},
+            {"(<= (p ?a ?b ?c) (q ?a ?b ?c ?d) (r ?e)) )", "(<= (p ?f ?g ?h ?i) (q ?f ?g ?h ?i) (r ?a ?b ?c ?d))"}};
+        for (String[] texts : both) {
+            Game game = new Game();
+            for (int times = 0; times < 2; times++) {
+                Check.due("a fault in " + texts[0], game.read(texts[0]) == 0 ? 0 : 1, 1);
+                Check.due("none in " + texts[1] + " behind it", game.read(texts[1]) + " at " + game.it.fault(), "0 at -1");
+                Check.due("which can be started", Check.answer(game.it::start).length(), 1);
+            }
+        }
+        Game game = Game.of("(<= (init a) p q r s t (not u) (not v) (distinct b c)) p q r s t");
+        Check.due("eight conditions", game.it.start(), 1);
+        Check.due("none where eight were", game.read("(init b) (init c)"), 0);
+        Check.due("start() of these", game.it.start(), 2);
+        Check.due("other ones where eight were", game.read("(<= (init a) (not p)) (<= (init b) q) q"), 0);
+        Check.due("start() of those", game.state(game.it.start()), "a, b");
+        Check.due("the first again", game.read("(<= (init a) p q r s t (not u) (not v) (distinct b c)) p q r s"), 0);
+        Check.due("without one that has to hold", game.it.start(), 0);
     }
 
     /** Promise 4: "The text stays." */

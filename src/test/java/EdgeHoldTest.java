@@ -17,6 +17,8 @@ final class EdgeHoldTest {
         negativeConditions();
         distinctTerms();
         asLongAsAnythingNewComes();
+        asLongAsAnythingNewComesOfStates();
+        behindWhatCameOfItself();
         relationsAheadOfNot();
         justIfItHasTo();
         atomsThatHold();
@@ -158,6 +160,33 @@ final class EdgeHoldTest {
         Check.due("a round ends", start("(e a b)(e b c)(e c a)(<= (r ?x ?y) (e ?x ?y))"
                 + "(<= (r ?x ?z) (r ?x ?y) (e ?y ?z))(<= (init (p ?x ?y)) (r ?x ?y))"),
                 "(p a a), (p a b), (p a c), (p b a), (p b b), (p b c), (p c a), (p c b), (p c c)");
+    }
+
+    /** Terms 3: "as long as anything new comes", of a state and of moves, too. */
+    private static void asLongAsAnythingNewComesOfStates() {
+        Game game = started("(role r) (init (e a b)) (init (e b c)) (init (e c d)) (<= (legal r ?x) (v ?x)) (v a) (v d)"
+                + "(<= (edge ?x ?y) (true (e ?x ?y))) (<= (way ?x ?y) (edge ?x ?y)) (<= (way ?x ?z) (way ?x ?y) (edge ?y ?z))"
+                + "(<= (from ?x) (does r ?x)) (<= (from ?y) (from ?x) (edge ?x ?y))"
+                + "(<= (next (e ?x ?y)) (true (e ?x ?y)) (distinct ?y d)) (<= (next ?x) (from ?x)) (<= terminal (way a d))");
+        Check.due("from the first to the last", game.it.terminal() ? 1 : 0, 1);
+        Check.due("all from the move on", game.it.play(0), 6);
+        Check.due("are told", game.state(6), "(e a b), (e b c), a, b, c, d");
+        Check.due("no way leads there then", game.it.terminal() ? 1 : 0, 0);
+        Check.due("all from the move on then", game.it.play(0), 5);
+        Check.due("are told then", game.state(5), "(e a b), (e b c), a, b, c");
+        Check.due("from the other", game.it.play(1), 3);
+        Check.due("it is alone", game.state(3), "(e a b), (e b c), d");
+    }
+
+    /** Terms 3: "stratum by stratum": rules behind those that rest on themselves have all their conditions. */
+    private static void behindWhatCameOfItself() {
+        String chain = "(s a b) (s b c) (s c d) (r a) (<= (r ?y) (r ?x) (s ?x ?y)) (n b) (n d) (n z)";
+        Check.due("the first condition counts", start(chain + "(<= (init ?x) (n ?x) (r ?x))"), "b, d");
+        Check.due("the second one counts", start(chain + "(<= (init ?x) (r ?x) (n ?x))"), "b, d");
+        Check.due("each of three", start(chain + "(m d) (<= (init ?x) (r ?x) (n ?x) (m ?x))"), "d");
+        Check.due("each of three again", start(chain + "(m d) (<= (init ?x) (m ?x) (r ?x) (n ?x))"), "d");
+        Check.due("what comes first isn't new", start(chain + "(<= (init (f ?x ?y)) (r ?x) (r ?y) (s ?x ?y) (n ?y))"),
+                "(f a b), (f c d)");
     }
 
     /** Terms 3: "a relation's atoms all together ahead of any rule with a negative condition of it". */
@@ -460,6 +489,8 @@ final class EdgeHoldTest {
         for (int i = 0; i < names.length; i++) {
             goal("(goal r " + names[i] + ")", numbers[i]);
             goal("(goal r " + names[i] + ") (goal r 101) (goal r x)", numbers[i]);
+            goal("(goal r (f 1)) (goal r 101) (goal r " + names[i] + ")", numbers[i]);
+            goal("(goal r 1000) (goal r " + names[i] + ") (goal r x)", numbers[i]);
         }
         for (String none : new String[] {"101", "102", "110", "200", "999", "0000", "0001", "0100", "1000", "4294967296", "a",
             "1a", "a1", "_1", "1_", "_", "x10", "(1 1)", "(f 5)", "(100 0)", "2147483648"}) {

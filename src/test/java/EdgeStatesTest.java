@@ -47,6 +47,8 @@ final class EdgeStatesTest {
         exploreCounts();
         exploreTooGreat();
         exploreOnce();
+        exploreForgets();
+        exploreBesideTheState();
         defectTells();
         defectRefused();
         stateTells();
@@ -241,8 +243,12 @@ final class EdgeStatesTest {
         Check.due("30000000", game.it.explore(), 1);
         Check.due("known", game.it.defect(0), 6);
         Game more = Game.of(WORK + "(<=w(does x m))");
-        Check.refuses("30000001 by the joint move", TOO_GREAT, () -> more.it.explore());
+        Check.refuses("30000002 by two atoms of does", TOO_GREAT, () -> more.it.explore());
         Check.refuses("not known", NOT_KNOWN, () -> more.it.defect(0));
+        // three times one less, and two times two by the moves: 29999997 + 4
+        String less = WORK.replace("(<=v(c ?a))", "(<=v(role ?a))");
+        Check.due("29999999", Game.of(less + "(<=w(does x m))").it.explore(), 1);
+        Check.refuses("30000001", TOO_GREAT, () -> Game.of(less + "(<=w(does x m))(<=w(does y m))").it.explore());
         Check.refuses("30000003 by a rule without conditions", TOO_GREAT, () -> Game.of(WORK + "w").it.explore());
         Check.refuses("30000003 by a rule without positive ones", TOO_GREAT,
                 () -> Game.of(WORK + "(<=w(not v))").it.explore());
@@ -483,6 +489,51 @@ final class EdgeStatesTest {
         Check.refuses("its states aren't known", NOT_KNOWN, () -> game.it.value(0));
         Check.due("before they are found", game.it.explore(), 3);
         Check.due("its value", game.it.value(0), 100);
+    }
+
+    /** Promise 13: of states that were found for another sheet nothing is left. */
+    private static void exploreForgets() {
+        String[] texts = {WALK + "(x a b)(y b a)", WALK + "(x a b)(l b 0 100)", "p", WALK + "(x a b)(x a c)(l b 1 99)",
+            WALK + "(x a b)(x a c)(l b 100 0)(l c 50 50)", "(role a)(role b)"};
+        int[] kinds = {6, 0, 1, 4, 0, 2};
+        int[] flawed = {0, -1, -1, 2, -1, 0};
+        int[] states = {2, 2, 1, 3, 3, 1};
+        for (int first = 0; first < texts.length; first++) {
+            for (int second = 0; second < texts.length; second++) {
+                Game game = explored(texts[first]);
+                game.read(texts[second]);
+                Check.due("explore() of " + second + " behind " + first, game.it.explore(), states[second]);
+                Check.due("its defect", game.it.defect(0), kinds[second]);
+                Check.due("its defect's state", game.it.defect(1), flawed[second]);
+                Check.due("its value", Check.answer(() -> game.it.value(0)), kinds[second] != 0 ? "IllegalStateException"
+                        : second == 1 ? "0" : "100");
+            }
+        }
+    }
+
+    /** Promise 13: "the state stays", with its moves, though they are made of other terms than all that is found. */
+    private static void exploreBesideTheState() {
+        String text = "(role x)(role y)(init(at(p 0)))(s 0 1)(s 1 2)(s 2 3)(<=(legal x(go(at ?t)(by(at ?t))))(true(at ?t)))"
+                + "(<=(legal y(see ?t))(true ?t))(<=(next(at(p ?j)))(true(at(p ?i)))(s ?i ?j))"
+                + "(<=(next(did ?m))(does x ?m)(true(at(p 0))))(<=terminal(true(at(p 3))))";
+        Game game = Game.of(text);
+        game.it.start();
+        game.it.play(0);
+        String state = "(at (p 1)), (did (go (at (p 0)) (by (at (p 0)))))";
+        Check.due("the state", game.state(2), state);
+        String moves = "(go (at (p 1)) (by (at (p 1))))";
+        Check.due("a move", game.text(1, 0), moves);
+        Check.due("explore()", game.it.explore(), 4);
+        Check.due("the state stays", game.state(2), state);
+        Check.due("the move stays", game.text(1, 0), moves);
+        Check.due("the other's stays", game.text(2, 1).substring(0, 10), "(see (did ");
+        Check.due("play() goes on", game.it.play(0), 1);
+        Check.due("to", game.state(1), "(at (p 2))");
+        Game other = Game.of(text);
+        other.it.start();
+        other.it.play(0);
+        Check.due("explore() ahead of the moves", other.it.explore(), 4);
+        Check.due("the moves come then", other.text(1, 0), moves);
     }
 
     /** Promise 14: "The first defect (what = 0; 0 if there is none), its state (1; NONE for 0 and 1)." */
