@@ -206,6 +206,12 @@ final class EdgeHoldTest {
         Check.due("not by itself", start("(<= p p) (<= (init a) p) (init z)"), "z");
         Check.due("not in a round", start("(<= p q) (<= q r) (<= r p) (<= (init a) p) (init z)"), "z");
         Check.due("so not holds", start("(<= p q) (<= q p) (<= (init a) (not p))"), "a");
+        StringBuilder round = new StringBuilder();
+        for (int i = 0; i < 58; i++) {
+            round.append("(<= p").append(i).append(" p").append((i + 1) % 58).append(")");
+        }
+        Check.due("not in a round of 58", start(round + "(<= (init a) p0) (init z)"), "z");
+        Check.due("in one of 58 that has to", start(round + "(<= (init a) p0) p1"), "a");
         Check.due("once it has to", start("(<= p q) (<= q p) q (<= (init a) p)"), "a");
     }
 

@@ -49,6 +49,7 @@ final class EdgeStatesTest {
         exploreOnce();
         exploreForgets();
         exploreBesideTheState();
+        exploreByOneMadeMove();
         defectTells();
         defectRefused();
         stateTells();
@@ -249,6 +250,10 @@ final class EdgeStatesTest {
         String less = WORK.replace("(<=v(c ?a))", "(<=v(role ?a))");
         Check.due("29999999", Game.of(less + "(<=w(does x m))").it.explore(), 1);
         Check.refuses("30000001", TOO_GREAT, () -> Game.of(less + "(<=w(does x m))(<=w(does y m))").it.explore());
+        // three times two less, and three times two by the moves: where there are none, they are no work
+        String least = WORK.replace("(<=v(c ?a))", "(<=v)") + "(<=w(does x m))(<=w(does y m))(<=w(does ?r m))";
+        Check.due("29999994 and 6", Game.of(least).it.explore(), 1);
+        Check.refuses("29999997 and 6", TOO_GREAT, () -> Game.of(least.replace("(<=v)", "(<=v(role ?a))")).it.explore());
         Check.refuses("30000003 by a rule without conditions", TOO_GREAT, () -> Game.of(WORK + "w").it.explore());
         Check.refuses("30000003 by a rule without positive ones", TOO_GREAT,
                 () -> Game.of(WORK + "(<=w(not v))").it.explore());
@@ -369,6 +374,8 @@ final class EdgeStatesTest {
         // 0 a, 1 b, 2 c, 3 d, 4 e: c is in the round of d and e
         defect(WALK + "(x a b)(x a c)(y b d)(x d e)(y e c)(x c d)", 6, 2);
         defect(WALK + "(x a b)(x a c)(y b d)(x d e)(y e b)(y c c)", 6, 1);
+        // 0 a, 1 b, 2 c, 3 d, 4 e: b is come to from the round, but leads out of it
+        defect(WALK + "(x a b)(x a c)(x a d)(y b c)(x c e)(y d b)(y d d)(l e 0 100)", 6, 3);
     }
 
     /** Terms 5: "then, if no state has one of these". */
@@ -534,6 +541,17 @@ final class EdgeStatesTest {
         other.it.play(0);
         Check.due("explore() ahead of the moves", other.it.explore(), 4);
         Check.due("the moves come then", other.text(1, 0), moves);
+    }
+
+    /** Promise 13: "Finds all states", also where the one joint move is of terms that only the state makes. */
+    private static void exploreByOneMadeMove() {
+        String text = "(role x)(role y)(init(c 0))(n 0)(n 1)(n 2)(legal y w)(<=(legal x(put ?t(f ?t)))(true(c ?t))(n ?t))"
+                + "(<=(b(g ?r ?m)(h ?m ?r))(does ?r ?m))(<=(next(did ?m))(does x ?m)(b ?y ?z))"
+                + "(<=end(true(did(put ?t(f ?t)))))(<=terminal end)(<=(goal x 100)end)(<=(goal y 0)end)";
+        Game game = explored(text);
+        Check.due("two states", game.it.explore(), 2);
+        Check.due("the second is terminal", game.it.state(1, 1), 1);
+        Check.due("all values", values(game), "100:0 100:-1");
     }
 
     /** Promise 14: "The first defect (what = 0; 0 if there is none), its state (1; NONE for 0 and 1)." */

@@ -1,3 +1,7 @@
+import java.util.HashSet;
+import java.util.Random;
+import java.util.Set;
+
 /**
  * The edges of terms 1 (what a text, a token and a sheet are) and of promises 1 to 3. Above each
  * test stands the sentence of the document that it belongs to.
@@ -21,6 +25,7 @@ final class EdgeTextTest {
         notParted();
         signsOfNames();
         lengthsOfNames();
+        namesThatBeginOrEndAlike();
         lengthsOfVariables();
         variables();
         noToken();
@@ -154,6 +159,27 @@ final class EdgeTextTest {
         rulesAre("abcdefghijklmnop abcdefghijklmno abcdefghijklmnop", 3);
         Check.due("sixteen signs tell names apart", Game.of("(init abcdefghijklmnop)(init abcdefghijklmnoq)")
                 .it.start(), 2);
+    }
+
+    /** Terms 1: "NAMES, one to sixteen" signs: those that begin, or end, as another does are others. */
+    private static void namesThatBeginOrEndAlike() {
+        String signs = "abcdefghijklmnopqrstuvwxyz0123456789_";
+        Random random = new Random(5);
+        for (int times = 0; times < 80; times++) {
+            StringBuilder text = new StringBuilder();
+            Set<String> names = new HashSet<>();
+            for (int i = 0; i < 3; i++) {
+                StringBuilder name = new StringBuilder();
+                for (int k = 0; k < 16; k++) {
+                    name.append(signs.charAt(random.nextInt(37)));
+                    names.add(times % 2 == 0 ? name.toString() : signs.charAt(k + 17 * (i % 2)) + name.substring(k / 15));
+                }
+            }
+            for (String name : names) {
+                text.append("(init ").append(name).append(")");
+            }
+            Check.due("start() of " + text, Game.of(text.toString()).it.start(), names.size());
+        }
     }
 
     /** Terms 1: "VARIABLES, ? and a name": sixteen signs behind the ?, and not more. */

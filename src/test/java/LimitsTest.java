@@ -19,6 +19,7 @@ final class LimitsTest {
         jointMoves();
         work();
         rowsGrow();
+        madeAgainBehindGrowing();
         Check.finish("LimitsTest");
     }
 
@@ -261,6 +262,19 @@ final class LimitsTest {
         Check.refuses("work of 30000022", TOO_GREAT, () -> Game.of(text + "x").it.explore());
         Check.due("a rule without room", Game.of(text + "(<=x z)").it.explore(), 11);
         Check.refuses("by moves alone", TOO_GREAT, () -> Game.of(text + "(<=x(does x m))").it.explore());
+    }
+
+    /** Some 5000 terms, of which 1250 are made once more: these must be the same ones. */
+    private static void madeAgainBehindGrowing() {
+        StringBuilder head = new StringBuilder();
+        for (String name : new String[] {"a", "b", "c", "d"}) {
+            head.append(" (").append(name).append(" (f (g (h (i ").append(name).append(" ?x ?y)))))");
+        }
+        Game game = Game.of(set("n", 10) + set("m", 25) + "(<= (p" + head + ") (n ?x) (m ?y)) (<= (last ?d) (p ?a ?b ?c ?d))"
+                + "(<= (q (d (f (g (h (i d ?x ?y)))))) (n ?x) (m ?y) (last (d ?z)))"
+                + "(<= (init bad) (q ?d) (not (last ?d))) (<= (init good) (last ?d) (q ?d))");
+        Check.due("start()", game.it.start(), 1);
+        Check.due("all that is made again is the same", game.state(1), "good");
     }
 
     /** More states than the rows have place for at first; all of them come again. */
