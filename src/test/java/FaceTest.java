@@ -8,10 +8,19 @@ import java.util.TreeSet;
 
 /** The public face of the document: all of it, and nothing else. */
 final class FaceTest {
-    private static final String[] METHODS = {"int put(int)", "void end(int)", "int read()", "int fault()",
-        "int sheet(int)", "int start()", "int moves(int)", "boolean terminal()", "int goal(int)", "int play(int)",
-        "int sign(int, int, int)", "int explore()", "int defect(int)", "int state(int, int)", "int next(int, int)",
-        "int value(int)", "int best(int)"};
+    private static final String STATE = "IllegalStateException";
+    private static final String ARGUMENT = "IllegalArgumentException";
+    private static final String INDEX = "IndexOutOfBoundsException";
+    private static final String GREAT = "UnsupportedOperationException";
+    /** The methods as the document writes them, with what they throw, in its order. */
+    private static final String[] METHODS = {"int put(int) " + ARGUMENT + " " + GREAT, "void end(int) " + ARGUMENT,
+        "int read()", "int fault()", "int sheet(int) " + STATE + " " + ARGUMENT, "int start() " + STATE + " " + GREAT,
+        "int moves(int) " + STATE + " " + INDEX + " " + GREAT, "boolean terminal() " + STATE + " " + GREAT,
+        "int goal(int) " + STATE + " " + INDEX + " " + GREAT, "int play(int) " + STATE + " " + INDEX + " " + GREAT,
+        "int sign(int, int, int) " + STATE + " " + ARGUMENT + " " + INDEX + " " + GREAT,
+        "int explore() " + STATE + " " + GREAT, "int defect(int) " + STATE + " " + ARGUMENT,
+        "int state(int, int) " + STATE + " " + INDEX + " " + ARGUMENT, "int next(int, int) " + STATE + " " + INDEX,
+        "int value(int) " + STATE + " " + INDEX, "int best(int) " + STATE + " " + INDEX};
 
     private FaceTest() {
     }
@@ -41,6 +50,7 @@ final class FaceTest {
             }
         }
         Check.due("the constants", fields.toString(), "[public static final int NONE]");
+        Check.due("NONE", RuleSheets.NONE, -1);
         Constructor<?>[] all = face.getDeclaredConstructors();
         Check.due("one constructor", all.length, 1);
         Check.due("public, without parameters", Modifier.isPublic(all[0].getModifiers())
@@ -58,6 +68,10 @@ final class FaceTest {
         for (int i = 0; i < method.getParameterCount(); i++) {
             text.append(i == 0 ? "" : ", ").append(method.getParameterTypes()[i]);
         }
-        return text.append(')').toString();
+        text.append(')');
+        for (Class<?> thrown : method.getExceptionTypes()) {
+            text.append(' ').append(thrown.getSimpleName());
+        }
+        return text.toString();
     }
 }

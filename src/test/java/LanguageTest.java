@@ -1,7 +1,13 @@
 import java.io.IOException;
+import java.lang.reflect.Field;
+import java.lang.reflect.Method;
+import java.lang.reflect.Modifier;
 import java.nio.file.Files;
 import java.nio.file.Path;
+import java.util.ArrayList;
 import java.util.List;
+import java.util.Set;
+import java.util.TreeSet;
 import java.util.regex.Matcher;
 import java.util.regex.Pattern;
 
@@ -13,6 +19,10 @@ final class LanguageTest {
         "\\bhashCode\\b", "\\btoString\\b", "\\bgetMessage\\b", "while \\(true\\)", "for \\(;;\\)", "\\bObject\\b",
         "\\bMap\\b", "\\bSet\\b", "\\bnull\\b"};
     private static final int LONGEST_METHOD = 60;
+    private static final int MOST_FIELDS = 20;
+    /** What a static field may be, all of them final (rule 5). */
+    private static final Set<Class<?>> CONSTANTS = Set.of(int.class, long.class, boolean.class, char.class,
+            String.class, int[].class, long[].class, char[].class, byte[].class);
 
     private LanguageTest() {
     }
@@ -36,7 +46,46 @@ final class LanguageTest {
         int classes = text.split("\\bclass \\w+ \\{", -1).length - 1;
         Check.due("at most twelve classes, but there are " + classes, classes <= 12 ? 1 : 0, 1);
         checkMethods(lines);
+        checkClasses();
         Check.finish("LanguageTest");
+    }
+
+    /** What the classes themselves show of the rules 1, 2, 5 and 11. */
+    private static void checkClasses() {
+        List<Class<?>> all = new ArrayList<>(List.of(RuleSheets.class.getDeclaredClasses()));
+        for (Class<?> inner : all) {
+            int kind = inner.getModifiers();
+            Check.due(inner + " is static, and private or package-visible",
+                    Modifier.isStatic(kind) && !Modifier.isPublic(kind) && !Modifier.isProtected(kind) ? 1 : 0, 1);
+            Check.due("classes inside " + inner, inner.getDeclaredClasses().length, 0);
+        }
+        all.add(RuleSheets.class);
+        Set<String> face = new TreeSet<>();
+        for (Method method : RuleSheets.class.getDeclaredMethods()) {
+            if (Modifier.isPublic(method.getModifiers())) {
+                face.add(method.getName());
+            }
+        }
+        for (Class<?> one : all) {
+            for (Method method : one.getDeclaredMethods()) {
+                boolean hidden = Modifier.isPrivate(method.getModifiers());
+                Check.due(method + " bears a name of the face", hidden && face.contains(method.getName()) ? 1 : 0, 0);
+            }
+            checkFields(one);
+        }
+    }
+
+    private static void checkFields(Class<?> one) {
+        int fields = 0;
+        for (Field field : one.getDeclaredFields()) {
+            if (!Modifier.isStatic(field.getModifiers())) {
+                fields++;
+            } else {
+                Check.due(field + " is a constant", Modifier.isFinal(field.getModifiers())
+                        && CONSTANTS.contains(field.getType()) ? 1 : 0, 1);
+            }
+        }
+        Check.due("so many fields has " + one + ": " + fields, fields <= MOST_FIELDS ? 1 : 0, 1);
     }
 
     private static String withoutComments(String text) {
